@@ -73,7 +73,7 @@ public final class CommandByTurns {
     }
 
     public int ground() {
-        int wrong = land.misreadAt(text);
+        int wrong = Land.misreadAt(text);
         if (wrong == NONE) {
             land.read(text);
             now.armyAt = 0;
