@@ -1134,11 +1134,10 @@ public final class CommandByTurns {
         }
 
         int wayBetween(int a, int b) {
-            int way = 0;
-            for (int field = Math.min(a, b); field < Math.max(a, b); field++) {
-                way += 1 + riverBetween(field, field + 1);
-            }
-            return way;
+            int low = Math.min(a, b);
+            int high = Math.max(a, b);
+            int between = (1 << high) - (1 << low);
+            return high - low + Integer.bitCount(rivers & between);
         }
 
         int allFields() {
@@ -1386,7 +1385,7 @@ public final class CommandByTurns {
         int waitingLength;
 
         Formula() {
-            readNoRule();
+            read(new Text());
         }
 
         static int misreadAt(Text text) {
@@ -1448,31 +1447,20 @@ public final class CommandByTurns {
             }
         }
 
+        /** Reads a text that has been looked through; an empty one tells no rule. */
         void read(Text text) {
-            if (text.length == 0) {
-                readNoRule();
-                return;
-            }
+            boolean isNone = text.length == 0;
+            int length = isNone ? NO_RULE.length() : text.length;
             codeLength = 0;
             waitingLength = 0;
             boolean isThingDue = true;
-            for (int i = 0; i < text.length; i++) {
-                isThingDue = readSign(text.at(i), isThingDue);
+            for (int i = 0; i < length; i++) {
+                isThingDue = readSign(isNone ? NO_RULE.charAt(i) : text.at(i), isThingDue);
             }
             writeWaiting(1);
         }
 
-        private void readNoRule() {
-            codeLength = 0;
-            waitingLength = 0;
-            boolean isThingDue = true;
-            for (int i = 0; i < NO_RULE.length(); i++) {
-                isThingDue = readSign(NO_RULE.charAt(i), isThingDue);
-            }
-            writeWaiting(1);
-        }
-
-        /** Takes the next sign of a text that has been looked through; tells if a thing is due behind it. */
+        /** Takes the next sign; tells if a thing is due behind it. */
         private boolean readSign(char sign, boolean isThingDue) {
             if (Text.isDigit(sign)) {
                 readDigit(sign - '0', isThingDue);
@@ -1753,14 +1741,14 @@ public final class CommandByTurns {
                 return NONE;
             }
             int bits = 0;
-            int who = 0;
-            int run = k + 1;
+            int rashRun = k;
             for (int i = n - 1; i >= 0; i--) {
-                int rashRun = who == 0 ? run - 1 : k;
-                int slowRun = who == 1 ? run - 1 : k;
-                who = waysUpTo(i, 0, rashRun) > 0 ? 0 : 1;
-                run = who == 0 ? rashRun : slowRun;
-                bits |= who << i;
+                if (waysUpTo(i, 0, rashRun) > 0) {
+                    rashRun--;
+                } else {
+                    bits |= 1 << i;
+                    rashRun = k;
+                }
             }
             return bits;
         }

@@ -37,6 +37,13 @@ public final class BargainsTest {
         Check.wishes(x, 0, "90");
         Check.wishes(x, 1, "08");
         Check.due(x, "from consul 1's day on", x.bargain(), 1, 1, 0, 17);
+        x.halt();
+        Check.wishes(x, 0, "3502");
+        x.halt();
+        Check.wishes(x, 1, "0604");
+        x.halt();
+        // today is day 4: 0 2 are consul 0's for days 4 5, 6 0 4 are consul 1's for days 4 5 6
+        Check.due(x, "each told on a day of its own", x.bargain(), 2, 0, 1, 8);
     }
 
     private static void shares() {

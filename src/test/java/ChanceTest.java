@@ -99,6 +99,11 @@ public final class ChanceTest {
         w.fight();
         w.fight();
         Check.due(w, "without men no battle", w.years(1, 2), 0, 0, 568, 492);
+        CommandByTurns v = new CommandByTurns();
+        Check.rule(v, "500");
+        v.fight();
+        v.fight();
+        Check.due(v, "without the foe's men no battle", v.years(1, 2), 0, 568, 0, 474);
         Check.due("a seed below 0", new CommandByTurns().years(-1, 4), 2);
     }
 }

@@ -30,6 +30,13 @@ public final class CommandTest {
         Check.due(x, "command(31)", x.command(31), -1, 1, 6);
         Check.rule(x, "500");
         Check.due(x, "thirty days", x.command(30), 2, 0, 15000);
+        CommandByTurns z = new CommandByTurns();
+        Check.rule(z, "b*(1-2*(d=4))");
+        Check.due(z, "no rule has five days", z.command(5), 2, 0, 27);
+        Check.rule(z, "b*(1-2*(d-d/2*2))");
+        Check.due(z, "again and again", z.command(6), 2, 2, 18);
+        Check.rule(z, "b*(1-2*(d-d/3*3=1))");
+        Check.due(z, "three again and again", z.command(9), 3, 2, 45);
         CommandByTurns y = Check.on("3~1");
         Check.rule(y, "w*100+h");
         Check.due(y, "as they stand now", y.command(1), 2, 0, 102);
@@ -56,6 +63,11 @@ public final class CommandTest {
         Check.due(x, "food and day as now", x.halves(), 0, 100, 50);
         Check.rule(x, "-(m-20)*(m-20)*(b>5)");
         Check.due(x, "two hundreds", x.halves(), 2, 0, 0);
+        for (int i = 0; i < 10; i++) {
+            x.send(1, 999);
+        }
+        Check.rule(x, "(m=500)*(b>5)*9+(m=499)*(b<5)");
+        Check.due(x, "fifty hundreds, 4999 men are left", x.halves(), 50, 10, 9);
         CommandByTurns y = Check.on("5~2");
         Check.rule(y, "w*100+h");
         Check.due(y, "no river between", y.halves(), 0, 6, 3);

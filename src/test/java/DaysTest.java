@@ -114,6 +114,10 @@ public final class DaysTest {
         Check.due(z, "a battle lost", z.fight(), 501 - 6, 894, 898);
         Check.rule(z, "0");
         Check.due(z, "a battle that is neither", z.fight(), 501, 894, 898);
+        Check.rule(z, "1");
+        z.fight();
+        Check.rowIs(z, "a battle won by one", 894, 897);
+        z.undo();
         Check.rule(z, "2");
         Check.due(z, "a third is cut", z.fight(), 503, 894, 896);
         Check.rule(z, "-500");

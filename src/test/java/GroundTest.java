@@ -172,7 +172,7 @@ public final class GroundTest {
             {"1<2", 1}, {"2<1", 0}, {"2>1", 1}, {"1=1", 1}, {"1=2", 0}, {"1+1=2", 1}, {"(1<2)+(2<3)", 2},
             {"3*(1<2)", 3}, {"-(1<2)", -1}, {"500", 500}, {"501", 500}, {"-501", -500}, {"999*999*999*999", -500},
             {"999*999*999*999/999", -500}, {"0-999*999", -500}, {"2*(3+(4*(5-(1))))", 38}, {"1-2<0", 1}, {"010", 10},
-            {"-2*3+10", 4}, {"10-2*3", 4}, {"2<3-1", 0}};
+            {"-2*3+10", 4}, {"1+1+1+1+1+1+1+1+1+1+1+1+1+1+1+1+1+1+1+11", 30}, {"((((7))))-((((2))))", 5}, {"10-2*3", 4}, {"2<3-1", 0}};
         for (Object[] r : rules) {
             CommandByTurns x = new CommandByTurns();
             Check.due("rule() of " + r[0], Check.rule(x, (String) r[0]), 0);
@@ -198,6 +198,11 @@ public final class GroundTest {
         }
         Check.rule(x, "w");
         Check.due("no river in the foe's own field", x.issue(1, 0), 501);
+        x.foe(0);
+        Check.due("a river below the army", x.issue(1, 0), 502);
+        x.foe(1);
+        Check.rule(x, "-".repeat(39) + "b");
+        Check.due("39 signs ahead of a thing", x.issue(0, 0), 501 - 9);
         Check.rule(x, "d");
         Check.due("d is the day by 10, the rest", x.issue(0, 13), 504);
         Check.rule(x, "b*10+l");
