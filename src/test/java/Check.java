@@ -1,4 +1,5 @@
 import java.util.NoSuchElementException;
+import java.util.function.IntToLongFunction;
 
 /** What the tests share: answers that are due, texts that are written, exceptions that are due. */
 final class Check {
@@ -20,6 +21,13 @@ final class Check {
 
     static void due(String call, boolean got, boolean want) {
         due(call, got ? 1 : 0, want ? 1 : 0);
+    }
+
+    static void due(String call, String got, String want) {
+        if (!got.equals(want)) {
+            wrong++;
+            System.out.println(call + ": " + got + ", due is " + want);
+        }
     }
 
     /** An answer together with the whole ROW behind it. */
@@ -45,6 +53,16 @@ final class Check {
         due(call + " throws NoSuchElementException", thrown, true);
     }
 
+    /** A number that a call takes from a first to a last one: those next to the bounds on either side, and the far ones. */
+    static void range(String call, int first, int last, IntToLongFunction answer) {
+        for (int n : new int[] {Integer.MIN_VALUE, first - 1, last + 1, Integer.MAX_VALUE}) {
+            due(call + " with n " + n, answer.applyAsLong(n), CommandByTurns.NONE);
+        }
+        for (int n : new int[] {first, first + 1, last - 1, last}) {
+            due(call + " with n " + n + " is refused", answer.applyAsLong(n) == CommandByTurns.NONE, false);
+        }
+    }
+
     /** Writes a text from nothing on. */
     static void write(CommandByTurns x, String text) {
         x.end(0);
@@ -58,10 +76,14 @@ final class Check {
         x.end(text.length());
     }
 
+    static int ground(CommandByTurns x, String ground) {
+        write(x, ground);
+        return x.ground();
+    }
+
     static CommandByTurns on(String ground) {
         CommandByTurns x = new CommandByTurns();
-        write(x, ground);
-        x.ground();
+        ground(x, ground);
         return x;
     }
 
@@ -78,6 +100,18 @@ final class Check {
     static int war(CommandByTurns x, String war) {
         write(x, war);
         return x.war();
+    }
+
+    static void halts(CommandByTurns x, int n) {
+        for (int i = 0; i < n; i++) {
+            x.halt();
+        }
+    }
+
+    /** Today and so many days on are nobody's. */
+    static void bothSick(CommandByTurns x, int n) {
+        x.sick(0, n);
+        x.sick(1, n);
     }
 
     static void finish() {
