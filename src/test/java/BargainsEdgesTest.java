@@ -17,7 +17,7 @@ public final class BargainsEdgesTest {
     private static void bargainsWithMoreForBoth() {
         Object[][] wishes = {{"01", "10", 1, 2}, {"00", "10", 0, 0}, {"01", "00", 0, 0}, {"11", "10", 0, 0}, {"01", "11", 0, 0},
             {"10", "01", 0, 0}, {"12", "21", 1, 2}, {"09", "90", 1, 18}, {"89", "98", 1, 2}, {"99", "90", 0, 0},
-            {"10", "90", 0, 0}, {"0", "0", 0, 0}};
+            {"10", "90", 0, 0}, {"0", "0", 0, 0}, {"011", "002", 0, 0}, {"001", "022", 0, 0}};
         for (Object[] w : wishes) {
             CommandByTurns x = new CommandByTurns();
             x.march(1);
@@ -61,11 +61,23 @@ public final class BargainsEdgesTest {
         Check.wishes(x, 0, "9");
         Check.wishes(x, 1, "00000000000000000008");
         x.undo();
-        Check.due(x, "the twenty-first day", x.bargain(), 0);
+        Check.due(x, "the twenty-first day, consul 0's", x.bargain(), 0);
         x.halt();
         Check.due(x, "the twentieth day, a day later", x.bargain(), 1, 19, 0, 17);
         x.halt();
         Check.due(x, "a day that is past", x.bargain(), 0);
+        CommandByTurns y = new CommandByTurns();
+        Check.wishes(y, 1, "1");
+        y.halt();
+        Check.wishes(y, 0, "00000000000000000009");
+        y.undo();
+        y.lend(20);
+        Check.due(y, "the twenty-first day, consul 1's", y.bargain(), 0);
+        y.lend(20);
+        y.halt();
+        Check.wishes(y, 1, "01");
+        y.lend(20);
+        Check.due(y, "the twentieth day, consul 1's", y.bargain(), 1, 1, 19, 10);
     }
 
     private static void bargainsByWhoseTheyAre() {

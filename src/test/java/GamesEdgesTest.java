@@ -247,6 +247,13 @@ public final class GamesEdgesTest {
         y.lend(2);
         // three days of consul 1, each of which would do alone
         Check.due(y, "of as few the least", y.forces(3), 1, 1);
+        CommandByTurns z = Check.on("0~00000000");
+        z.set(0, 0, 6);
+        z.set(1, 0, 0);
+        z.lend(0);
+        z.lend(2);
+        // consuls 1 1 1 1 0: days 1 and 2 by 0 2 5 4 7, days 0 and 3 by 2 1 1 4 7; not 0 and 1, not 0 and 2
+        Check.due(z, "the least as bits, not by the first day", z.forces(5), 2, 6);
     }
 
     /** Promise 32: "n 1 .. 30", "NONE: another n". */

@@ -49,6 +49,7 @@ public final class GroundEdgesTest {
         Check.due("nothing is kept under 0", x.again(0), false);
         Check.due("nothing is kept under 1", x.again(1), false);
         Check.due("objects are apart", two(), 2);
+        Check.due("NONE", CommandByTurns.NONE, -1);
     }
 
     private static int two() {

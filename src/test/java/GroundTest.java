@@ -1,7 +1,6 @@
-/** Promises 1 to 10: a new object, the ground, wishes, the rule, fields, consuls, sheets. */
+/** Promises 2 to 10: the text, the ground, wishes, the rule, fields, consuls, sheets. */
 public final class GroundTest {
     public static void main(String[] args) {
-        aNewObject();
         signsAndEnd();
         grounds();
         wrongGrounds();
@@ -14,23 +13,6 @@ public final class GroundTest {
         setBoldAndLiked();
         sheets();
         Check.finish();
-    }
-
-    private static void aNewObject() {
-        CommandByTurns x = new CommandByTurns();
-        int[] counts = {2, 0, 0, 1, 900, 900, 500, 0, 1, 0, 0, 0, 0};
-        for (int what = 0; what < counts.length; what++) {
-            Check.due("count(" + what + ") of a new object", x.count(what), counts[what]);
-        }
-        int[][] consuls = {{9, 5, 4, -1, 0}, {3, 5, 2, -1, 0}};
-        for (int c = 0; c < 2; c++) {
-            for (int what = 0; what < 5; what++) {
-                Check.due("consul(" + c + ", " + what + ") at first", x.consul(c, what), consuls[c][what]);
-            }
-        }
-        Check.due("field(0, 0) at first", x.field(0, 0), 0);
-        Check.due("field(0, 1) at first", x.field(0, 1), 0);
-        Check.due("NONE", CommandByTurns.NONE, -1);
     }
 
     private static void signsAndEnd() {

@@ -4,7 +4,6 @@ public final class KeptTest {
         kept();
         counts();
         rows();
-        questionsChangeNothing();
         Check.finish();
     }
 
@@ -86,43 +85,5 @@ public final class KeptTest {
         Check.rowIs(x, "calls that tell none", 0, 490);
         x.halt();
         Check.rowIs(x, "a call that tells one", 1);
-    }
-
-    private static void questionsChangeNothing() {
-        CommandByTurns x = Check.on("0~5312~4");
-        Check.wishes(x, 0, "123");
-        x.march(3);
-        x.sign(0x31323334);
-        int[] ahead = new int[13];
-        for (int what = 0; what < 13; what++) {
-            ahead[what] = x.count(what);
-        }
-        x.comes(0, 30);
-        x.issue(4, 2);
-        x.reach(0);
-        x.evening();
-        x.lasts();
-        x.feeds(99);
-        x.boldness(4);
-        x.arrives(5);
-        x.avoids(20);
-        x.safe(20);
-        x.forces(10);
-        x.offers(30);
-        x.bargain();
-        x.share(20);
-        x.command(30);
-        x.halves();
-        x.was(20, 3);
-        x.sure(20, 3);
-        x.ask(20, 3);
-        x.rain(12, 3);
-        x.rests();
-        x.years(7, 60);
-        for (int what = 0; what < 13; what++) {
-            if (what != 11) {
-                Check.due("count(" + what + ") behind all questions", x.count(what), ahead[what]);
-            }
-        }
     }
 }
