@@ -7,6 +7,7 @@ import java.nio.file.Files;
 import java.nio.file.Path;
 import java.util.Arrays;
 import java.util.TreeSet;
+import java.util.regex.Matcher;
 import java.util.regex.Pattern;
 
 /** The public face of the document and what LANGUAGE.md rules out, as far as a reader of the class can see it. */
@@ -54,7 +55,16 @@ public final class FaceTest {
             Check.due(f.getName() + " is final, if it is static",
                     !Modifier.isStatic(f.getModifiers()) || Modifier.isFinal(f.getModifiers()), true);
         }
+        Check.due("at most some twenty fields", fieldsOf(c) <= 20, true);
         Check.due("at most some twelve classes", c.getDeclaredClasses().length <= 11, true);
+    }
+
+    private static int fieldsOf(Class<?> c) {
+        int fields = 0;
+        for (Field f : c.getDeclaredFields()) {
+            fields += Modifier.isStatic(f.getModifiers()) ? 0 : 1;
+        }
+        return fields;
     }
 
     private static void namesInside() {
@@ -66,6 +76,7 @@ public final class FaceTest {
         }
         for (Class<?> inner : CommandByTurns.class.getDeclaredClasses()) {
             Check.due(inner.getName() + " is static", Modifier.isStatic(inner.getModifiers()), true);
+            Check.due(inner.getName() + " has at most some twenty fields", fieldsOf(inner) <= 20, true);
             for (Method m : inner.getDeclaredMethods()) {
                 Check.due(inner.getName() + "." + m.getName() + " bears a public name", open.contains(m.getName()), false);
                 Check.due(m.getName() + " has at most seven parameters", m.getParameterCount() <= 7, true);
@@ -84,5 +95,21 @@ public final class FaceTest {
         for (String pattern : RULED_OUT) {
             Check.due("the source holds " + pattern, Pattern.compile(pattern).matcher(text).find(), false);
         }
+        methodLengths(text.split("\n"));
+    }
+
+    /** A method's first line ends in { and has a ( ahead of it, its last one is a } that stands as far to the right. */
+    private static void methodLengths(String[] lines) {
+        Pattern first = Pattern.compile("( {4}| {8})(?!if|for|while|switch|\\}| )\\w.*\\(.*\\{");
+        int methods = 0;
+        for (int i = 0; i < lines.length; i++) {
+            Matcher m = first.matcher(lines[i]);
+            if (m.matches()) {
+                int last = Arrays.asList(lines).subList(i, lines.length).indexOf(m.group(1) + "}");
+                Check.due("some sixty lines at most: " + lines[i], last > 0 && last <= 60, true);
+                methods++;
+            }
+        }
+        Check.due("methods are found in the source", methods > 100, true);
     }
 }
